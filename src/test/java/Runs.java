@@ -1,6 +1,22 @@
-/** Beginnings of runs that several tests share. */
+/** Beginnings of runs, and wrong inputs, that several tests share. */
 final class Runs {
+    private static final int MIN = Integer.MIN_VALUE;
+    private static final int MAX = Integer.MAX_VALUE;
+
     private Runs() {
+    }
+
+    /** Numbers that no file has; 256 times the last two wraps to the records of files 1 and 12. */
+    static int[] noFiles() {
+        return new int[] {MIN, -1, 0, 13, 14, MAX, (1 << 24) + 1, (1 << 24) + 12};
+    }
+
+    /** On a new object: makes so many files with one link each. */
+    static void makeFiles(Run run, int n) {
+        for (int i = 1; i <= n; i++) {
+            int file = i;
+            run.due(file, x -> x.make(1));
+        }
     }
 
     /** On a new object: takes so many blocks, 15 for each of the files 1, 2 and so on. */
@@ -23,5 +39,12 @@ final class Runs {
         for (int i = 0; i < n; i++) {
             body[at + i] = (int) Math.floorMod((long) seed + 7L * i, 256L);
         }
+    }
+
+    /** A body of so many bytes that are painted from 0 on. */
+    static int[] painted(int n, int seed) {
+        int[] body = new int[n];
+        pattern(body, 0, n, seed);
+        return body;
     }
 }
