@@ -15,55 +15,75 @@ public final class FaceTest {
     private static final String ISE = "IllegalStateException";
     private static final String IOB = "IndexOutOfBoundsException";
     private static final Set<String> FACE = new TreeSet<>(Arrays.asList(
-            "FileBody()",
-            "int make(int) " + IAE + " " + ISE,
-            "int link(int int) " + IAE + " " + ISE,
-            "int write(int int long int) " + IAE + " " + ISE,
-            "int paint(int int int int) " + IAE + " " + ISE,
-            "int read(int int) " + IAE + " " + IOB,
-            "int cut(int int) " + IAE,
-            "int links(int int) " + IAE,
-            "int drop(int) " + IAE + " " + ISE,
-            "int finish()",
-            "int about(int int) " + IAE,
-            "int block(int int) " + IAE,
-            "int count(int) " + IAE,
-            "int byteOf(int int) " + IOB));
+            "public final class FileBody",
+            "public FileBody()",
+            "public int make(int) " + IAE + " " + ISE,
+            "public int link(int int) " + IAE + " " + ISE,
+            "public int write(int int long int) " + IAE + " " + ISE,
+            "public int paint(int int int int) " + IAE + " " + ISE,
+            "public int read(int int) " + IAE + " " + IOB,
+            "public int cut(int int) " + IAE,
+            "public int links(int int) " + IAE,
+            "public int drop(int) " + IAE + " " + ISE,
+            "public int finish()",
+            "public int about(int int) " + IAE,
+            "public int block(int int) " + IAE,
+            "public int count(int) " + IAE,
+            "public int byteOf(int int) " + IOB));
 
     public static void main(String[] args) {
         Set<String> seen = new TreeSet<>();
-        Set<String> openNames = new TreeSet<>();
+        seen.add(Modifier.toString(FileBody.class.getModifiers()) + " class FileBody");
+        addConstructors(seen);
+        addMethods(seen);
+        addOpenFields(seen);
+        addClassesOfOtherForms(seen);
+        if (!seen.equals(FACE)) {
+            System.out.println("the face is " + seen + ", due is " + FACE);
+            System.exit(1);
+        }
+        System.out.println("the face is as due");
+    }
+
+    /** Private ones too: there is one constructor, and it is public. */
+    private static void addConstructors(Set<String> seen) {
         for (Constructor<?> made : FileBody.class.getDeclaredConstructors()) {
-            seen.add("FileBody" + types(made.getParameterTypes()) + thrown(made.getExceptionTypes()));
+            seen.add(Modifier.toString(made.getModifiers()) + " FileBody"
+                    + types(made.getParameterTypes()) + thrown(made.getExceptionTypes()));
+        }
+    }
+
+    /** Open ones, and private ones that bear the name of a public one. */
+    private static void addMethods(Set<String> seen) {
+        Set<String> openNames = new TreeSet<>();
+        for (Method method : FileBody.class.getMethods()) {
+            openNames.add(method.getName());
         }
         for (Method method : FileBody.class.getDeclaredMethods()) {
-            if (isOpen(method)) {
-                openNames.add(method.getName());
-                seen.add(method.getReturnType().getSimpleName() + " " + method.getName()
+            if (isOpen(method) || openNames.contains(method.getName())) {
+                seen.add(Modifier.toString(method.getModifiers()) + " "
+                        + method.getReturnType().getSimpleName() + " " + method.getName()
                         + types(method.getParameterTypes()) + thrown(method.getExceptionTypes()));
             }
         }
+    }
+
+    private static void addOpenFields(Set<String> seen) {
         for (Field field : FileBody.class.getDeclaredFields()) {
             if (isOpen(field)) {
                 seen.add("field " + field.getName());
             }
         }
+    }
+
+    /** Classes inside that are not static, or neither private nor package-visible. */
+    private static void addClassesOfOtherForms(Set<String> seen) {
         for (Class<?> inside : FileBody.class.getDeclaredClasses()) {
-            if (!Modifier.isStatic(inside.getModifiers()) || Modifier.isPublic(inside.getModifiers())) {
-                seen.add("class " + inside.getName());
+            int form = inside.getModifiers();
+            if (!Modifier.isStatic(form) || Modifier.isPublic(form) || Modifier.isProtected(form)) {
+                seen.add(Modifier.toString(form) + " class " + inside.getName());
             }
         }
-        for (Method method : FileBody.class.getDeclaredMethods()) {
-            if (!isOpen(method) && openNames.contains(method.getName())) {
-                seen.add("private " + method.getName());
-            }
-        }
-        boolean isFinal = Modifier.isFinal(FileBody.class.getModifiers());
-        if (!seen.equals(FACE) || !isFinal) {
-            System.out.println("the face is " + seen + (isFinal ? "" : ", not final") + ", due is " + FACE);
-            System.exit(1);
-        }
-        System.out.println("the face is as due");
     }
 
     private static boolean isOpen(Member member) {

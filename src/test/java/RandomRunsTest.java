@@ -15,19 +15,23 @@ public final class RandomRunsTest {
     private final Model model = new Model();
     /** How much of the run fills files, out of 100: full volumes and empty ones are both wanted. */
     private final int filling;
+    /** Every other run begins with this many files whose pieces all have blocks. */
+    private final int fullFiles;
+    private int calls;
     private String call;
 
     private RandomRunsTest(int run) {
         random = new Random(run);
         filling = 10 + random.nextInt(60);
+        fullFiles = run % 2 == 0 ? 0 : 7 + random.nextInt(2);
     }
 
     public static void main(String[] args) {
         for (int run = 1; run <= RUNS; run++) {
             RandomRunsTest test = new RandomRunsTest(run);
-            for (int i = 1; i <= CALLS; i++) {
+            while (test.calls < CALLS) {
                 if (!test.step()) {
-                    System.out.println("run " + run + ", call " + i + ": " + test.call);
+                    System.out.println("run " + run + ", call " + test.calls + ": " + test.call);
                     System.exit(1);
                 }
             }
@@ -36,11 +40,25 @@ public final class RandomRunsTest {
     }
 
     private boolean step() {
+        if (calls < 5 * fullFiles) {
+            return begin(1 + calls / 5, calls % 5);
+        }
         int kind = random.nextInt(100);
         if (kind < filling) {
             return fill();
         }
         return kind % 3 == 0 ? change() : look();
+    }
+
+    /** Five calls make a file and write into all its pieces; random ones seldom fill a volume. */
+    private boolean begin(int file, int which) {
+        if (which == 0) {
+            int links = random.nextInt(3);
+            return same("make(" + links + ")", y -> y.make(links), y -> y.make(links));
+        }
+        int at = 11360 * (which - 1) / 3;
+        return same("paint(" + file + ", " + at + ", 4000, " + file + ")",
+                y -> y.paint(file, at, 4000, file), y -> y.paint(file, at, 4000, file));
     }
 
     private boolean fill() {
@@ -138,6 +156,7 @@ public final class RandomRunsTest {
     }
 
     private boolean same(String name, ToIntFunction<FileBody> got, ToIntFunction<Model> due) {
+        calls++;
         String answer = Run.answer(x, got::applyAsInt);
         String want = dueAnswer(due);
         call = name + " answered " + answer + ", due is " + want;
